@@ -3,15 +3,31 @@ final class Check {
     static final int ALL_SOUND = -5;
     static final int[] NOT_EXTENTS = {-1, 8, 9, -8, 256, Integer.MIN_VALUE, Integer.MAX_VALUE};
 
+    static final int[] NOT_DISKS = {-1, 5, 6, 8, Integer.MIN_VALUE, Integer.MAX_VALUE};
+    static final int[] MASKS = {1, -1, 255, Integer.MIN_VALUE, Integer.MAX_VALUE};
+
     private static int wrong = 0;
+    private static String sentence = "";
 
     private Check() {
+    }
+
+    /** A test of its own for one sentence of the document; it counts as failed if it throws. */
+    static void sentence(String words, Runnable test) {
+        sentence = "[" + words + "] ";
+        try {
+            test.run();
+        } catch (RuntimeException | Error thrown) {
+            wrong++;
+            System.out.println(sentence + "threw " + thrown);
+        }
+        sentence = "";
     }
 
     static void due(String call, long got, long want) {
         if (got != want) {
             wrong++;
-            System.out.println(call + " answered " + got + ", due is " + want);
+            System.out.println(sentence + call + " answered " + got + ", due is " + want);
         }
     }
 
