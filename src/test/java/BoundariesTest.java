@@ -61,6 +61,7 @@ public final class BoundariesTest {
         Check.sentence("11: and by no other call", BoundariesTest::healedByNoOther);
         Check.sentence("12: d from 0 to 4", BoundariesTest::loseFirstAndLast);
         Check.sentence("12: of a new object", BoundariesTest::loseOfNothing);
+        Check.sentence("12: some column of some extent", BoundariesTest::loseSeesEveryExtent);
         Check.sentence("12: not damaged any more", BoundariesTest::loseAfterDamage);
         Check.sentence("13: to becomes what from is, over every size", BoundariesTest::copyOverEverySize);
         Check.sentence("13: all columns sound afterwards", BoundariesTest::copyOverDamage);
@@ -704,6 +705,22 @@ public final class BoundariesTest {
             Check.due("lose(" + d + ")", x.lose(d), 0);
             for (int e = 0; e < 8; e++) {
                 Check.holds("lost " + d, x, e, ALL_SOUND);
+            }
+        }
+    }
+
+    private static void loseSeesEveryExtent() {
+        for (int e = 0; e < 8; e++) {
+            for (int size = 1; size <= 4; size++) {
+                for (int c = 0; c <= size; c++) {
+                    SelfHealStripes x = with(e, words(size));
+                    Check.due("damage", x.damage(e, c, 1), 1);
+                    for (int d = 0; d <= 4; d++) {
+                        Check.due("lose(" + d + ") while column " + c + " of " + e + " is damaged",
+                                x.lose(d), DAMAGED);
+                    }
+                    Check.holds("a refused lose", x, e, c, words(size));
+                }
             }
         }
     }

@@ -6,6 +6,7 @@ final class Check {
     static final int[] NOT_DISKS = {-1, 5, 6, 8, Integer.MIN_VALUE, Integer.MAX_VALUE};
     static final int[] MASKS = {1, -1, 255, Integer.MIN_VALUE, Integer.MAX_VALUE};
 
+    private static final int ENOUGH = 100;
     private static int wrong = 0;
     private static String sentence = "";
 
@@ -29,6 +30,11 @@ final class Check {
             wrong++;
             System.out.println(sentence + call + " answered " + got + ", due is " + want);
         }
+    }
+
+    /** A test of very many cases ends here: more of the same faults would tell nothing new. */
+    static boolean enough() {
+        return wrong >= ENOUGH;
     }
 
     static void finish() {

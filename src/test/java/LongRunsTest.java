@@ -7,22 +7,21 @@ public final class LongRunsTest {
         0, 1, -1, 2, 3, 4, 5, 7, 8, 255, Integer.MIN_VALUE, Integer.MAX_VALUE
     };
 
-    private final SelfHealStripes program = new SelfHealStripes();
-    private final Model model = new Model();
+    private final Both both;
     private final int run;
     private final int extentsInUse;
     private long seed;
-    private int calls = 0;
 
     private LongRunsTest(int run) {
         this.run = run;
+        this.both = new Both(() -> "run " + run);
         this.seed = run * 7919L + 1;
         // Few extents in some runs, so that calls meet in one extent more often.
         this.extentsInUse = run % 3 == 0 ? 8 : 1 + run % 3;
     }
 
     public static void main(String[] args) {
-        for (int run = 0; run < RUNS; run++) {
+        for (int run = 0; run < RUNS && !Check.enough(); run++) {
             new LongRunsTest(run).go();
         }
         Check.finish();
@@ -30,13 +29,13 @@ public final class LongRunsTest {
 
     private void go() {
         boolean watched = run % 2 == 0;
-        while (calls < CALLS_BEFORE_LAST_LOOK) {
+        while (both.calls() < CALLS_BEFORE_LAST_LOOK) {
             step();
             if (watched) {
-                lookAtAll();
+                both.lookAtFirst(extentsInUse);
             }
         }
-        readAll();
+        lastLook();
     }
 
     private int below(int bound) {
@@ -64,68 +63,33 @@ public final class LongRunsTest {
     private void step() {
         int kind = below(30);
         if (kind < 7) {
-            int word = number();
-            due("draft(" + word + ")", program.draft(word), model.draft(word));
+            both.draft(number());
         } else if (kind < 10) {
-            int e = extent();
-            due("put(" + e + ")", program.put(e), model.put(e));
+            both.put(extent());
         } else if (kind < 17) {
-            int e = extent();
-            int c = column();
-            int mask = mask();
-            due("damage(" + e + ", " + c + ", " + mask + ")", program.damage(e, c, mask), model.damage(e, c, mask));
+            both.damage(extent(), column(), mask());
         } else if (kind < 20) {
-            read(extent(), column());
+            both.read(extent(), column());
         } else if (kind < 23) {
-            int d = column();
-            due("lose(" + d + ")", program.lose(d), model.lose(d));
+            both.lose(column());
         } else if (kind < 25) {
-            int from = extent();
-            int to = extent();
-            due("copy(" + from + ", " + to + ")", program.copy(from, to), model.copy(from, to));
+            both.copy(extent(), extent());
         } else if (kind < 26) {
-            int e = extent();
-            due("delete(" + e + ")", program.delete(e), model.delete(e));
+            both.delete(extent());
         } else if (kind < 28) {
-            due("scrub()", program.scrub(), model.scrub());
+            both.scrub();
         } else if (kind < 29) {
-            lookAt(extent());
+            both.lookAt(extent());
         } else if (below(4) == 0) {
-            program.scrap();
-            model.scrap();
-            calls++;
+            both.scrap();
         }
     }
 
-    private void read(int e, int i) {
-        due("read(" + e + ", " + i + ")", program.read(e, i), model.read(e, i));
-    }
-
-    private void lookAt(int e) {
-        due("size(" + e + ")", program.size(e), model.size(e));
-        due("damaged(" + e + ")", program.damaged(e), model.damaged(e));
-        due("digest(" + e + ")", program.digest(e), model.digest(e));
-    }
-
-    private void lookAtAll() {
-        for (int e = 0; e < extentsInUse; e++) {
-            lookAt(e);
-        }
-        due("healed()", program.healed(), model.healed());
-    }
-
-    private void readAll() {
-        lookAtAll();
+    private void lastLook() {
+        both.lookAtFirst(8);
         for (int e = 0; e < 8; e++) {
-            for (int i = 0; i < 4; i++) {
-                read(e, i);
-            }
+            both.readAll(e);
         }
-        due("healed()", program.healed(), model.healed());
-    }
-
-    private void due(String call, int got, int want) {
-        calls++;
-        Check.due("run " + run + ", call " + calls + ": " + call, got, want);
+        both.healed();
     }
 }
