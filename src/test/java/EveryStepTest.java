@@ -4,15 +4,18 @@ import java.util.function.Consumer;
 
 /**
  * Every call made once from every shape of two extents: each pair of extents, each of the two
- * absent, present with every size and every damaged column, or deleted. The answer and all that
- * can be seen afterwards must be the model's.
+ * absent, present with every size and every damaged column, sound again, or deleted. The answer
+ * and all that can be seen afterwards must be the model's.
  */
 public final class EveryStepTest {
     private static final int NONE = -1;
     private static final int[] MASKS = {0x80000005, 1, 0x7ffffffe, -1, 6, 0x40000000, 0x55555555, 3};
 
+    /** What was done to an extent after its column was damaged; something may stay behind. */
+    private enum Then { LEFT, UNDONE, DELETED }
+
     /** How an extent came to be what it is; a size of 0 is one that was never present. */
-    private record Shape(int size, int damagedColumn, boolean deleted) {
+    private record Shape(int size, int damagedColumn, Then then) {
     }
 
     /** A call on the first extent, and how many words are in the draft before it. */
@@ -47,14 +50,15 @@ public final class EveryStepTest {
 
     private static List<Shape> shapes() {
         List<Shape> all = new ArrayList<>();
-        all.add(new Shape(0, NONE, false));
+        all.add(new Shape(0, NONE, Then.LEFT));
         for (int size = 1; size <= 4; size++) {
             for (int column = NONE; column <= size; column++) {
-                all.add(new Shape(size, column, false));
+                all.add(new Shape(size, column, Then.LEFT));
             }
         }
-        for (int column = NONE; column <= 4; column++) {
-            all.add(new Shape(4, column, true));
+        for (int column = 0; column <= 4; column++) {
+            all.add(new Shape(4, column, Then.UNDONE));
+            all.add(new Shape(4, column, Then.DELETED));
         }
         return all;
     }
@@ -145,7 +149,10 @@ public final class EveryStepTest {
         if (shape.damagedColumn() != NONE) {
             both.damage(e, shape.damagedColumn(), MASKS[e]);
         }
-        if (shape.deleted()) {
+        if (shape.then() == Then.UNDONE) {
+            both.damage(e, shape.damagedColumn(), MASKS[e]);
+        }
+        if (shape.then() == Then.DELETED) {
             both.delete(e);
         }
     }
