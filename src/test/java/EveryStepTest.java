@@ -3,9 +3,9 @@ import java.util.List;
 import java.util.function.Consumer;
 
 /**
- * Every call made once from every shape of two extents: each pair of extents, each of the two
- * absent, present with every size and every damaged column, sound again, or deleted. The answer
- * and all that can be seen afterwards must be the model's.
+ * Every call made once from many shapes of two extents: each pair of extents, each of the two
+ * absent, present with every size and every damaged column, or, with four words, sound again or
+ * deleted. The answer and all that can be seen afterwards must be the model's.
  */
 public final class EveryStepTest {
     private static final int NONE = -1;
